@@ -288,6 +288,10 @@ public final class ImageChainPromises {
         String before = state(y);
         due("commit: with snapshots", y.commit(), ImageChain.NONE);
         same("commit: with snapshots", state(y), before);
+        y.forget(0);
+        due("commit: with one snapshot", y.commit(), ImageChain.NONE);
+        y.forget(0);
+        due("commit: the snapshots gone", y.commit(), 3);
         ImageChain z = new ImageChain();
         z.write(1, 1);
         due("commit: one image with words", z.commit(), ImageChain.NONE);
@@ -327,6 +331,25 @@ public final class ImageChainPromises {
         String before = state(y);
         due("abandon: with snapshots", y.abandon(), ImageChain.NONE);
         same("abandon: with snapshots", state(y), before);
+        y.forget(0);
+        due("abandon: with one snapshot", y.abandon(), ImageChain.NONE);
+        y.forget(0);
+        due("abandon: the snapshots gone", y.abandon(), 3);
+        abandonFromFour();
+    }
+
+    private static void abandonFromFour() {
+        ImageChain x = new ImageChain();
+        for (int n = 1; n <= 4; n++) {
+            x.fill(0, 15, n);
+            x.overlay();
+        }
+        x.backup();
+        for (int n = 3; n >= 1; n--) {
+            due("abandon: all clusters said", x.abandon(), 16);
+            due("abandon: all clusters change", x.backup(), 16);
+            due("abandon: the word below", x.read(15), n);
+        }
     }
 
     private static void promise11Pull() {
