@@ -296,16 +296,20 @@ public final class ImageChainAgainstModel {
         return method.equals("revert") || method.equals("forget") || method.equals("peek");
     }
 
+    /** Every second run goes on to the last call that an object is granted; the others look it over. */
     private static void run(int number) {
         Pair pair = new Pair(number);
-        for (int i = 0; i < CALLS; i++) {
+        boolean toTheEnd = number % 2 == 0;
+        for (int i = 0; i < (toTheEnd ? MOST_CALLS : CALLS); i++) {
             String method = METHODS[choose(METHODS.length)];
             int a = argument(takesSnapshotFirst(method) ? 5 : 16);
             int b = argument(16);
             boolean swap = method.equals("fill") && a > b && choose(8) != 0;
             pair.call(method, swap ? b : a, swap ? a : b, WORDS[choose(WORDS.length)]);
         }
-        pair.lookOver();
+        if (!toTheEnd) {
+            pair.lookOver();
+        }
     }
 
     public static void main(String[] args) {
