@@ -381,7 +381,6 @@ public final class ImageChainRefusals {
             compare(state + ": all questions", asked, way, want);
             Subject checked = state.build();
             checked.make(new Call("check", 0, 0, 0, 0), state.toString());
-            checked.make(new Call("check", 0, 0, 0, 0), state.toString());
             compare(state + ": check", checked, way, want);
         }
     }
