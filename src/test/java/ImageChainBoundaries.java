@@ -50,6 +50,12 @@ public final class ImageChainBoundaries {
         return x;
     }
 
+    private static void forgetAll(ImageChain x) {
+        for (int s = x.snapshots(); s > 0; s--) {
+            x.forget(0);
+        }
+    }
+
     /** Below, at and above the numbers of the snapshots when there are so many. */
     private static int[] noSnapshots(int count) {
         return new int[] {-1, count, count + 1, 4, 5, MIN, MAX};
@@ -624,9 +630,7 @@ public final class ImageChainBoundaries {
                 ImageChain x = full(images, snapshots);
                 String when = images + " images, " + snapshots + " snapshots, ";
                 due(when + "overlay()", x.overlay(), ImageChain.NONE);
-                for (int s = snapshots; s > 0; s--) {
-                    x.forget(0);
-                }
+                forgetAll(x);
                 due(when + "forgotten, overlay()", x.overlay(), images + 1);
             }
         }
@@ -653,28 +657,44 @@ public final class ImageChainBoundaries {
 
     // ---- Promises 9 and 10
 
-    private static void commitAndAbandonOneImage() {
-        says("Promises 9 and 10: NONE if there is one image only");
+    private static void commitOneImage() {
+        says("Promise 9: NONE if there is one image only");
+        due("new, commit()", new ImageChain().commit(), ImageChain.NONE);
         for (int snapshots = 0; snapshots <= 4; snapshots++) {
             due(snapshots + " snapshots, commit()", full(1, snapshots).commit(), ImageChain.NONE);
-            due(snapshots + " snapshots, abandon()", full(1, snapshots).abandon(), ImageChain.NONE);
         }
-        due("new, commit()", new ImageChain().commit(), ImageChain.NONE);
-        due("new, abandon()", new ImageChain().abandon(), ImageChain.NONE);
     }
 
-    private static void commitAndAbandonWithSnapshots() {
-        says("Promises 9 and 10: NONE if there is a snapshot");
+    private static void abandonOneImage() {
+        says("Promise 10: NONE if there is one image only");
+        due("new, abandon()", new ImageChain().abandon(), ImageChain.NONE);
+        for (int snapshots = 0; snapshots <= 4; snapshots++) {
+            due(snapshots + " snapshots, abandon()", full(1, snapshots).abandon(), ImageChain.NONE);
+        }
+    }
+
+    private static void commitWithSnapshots() {
+        says("Promise 9: NONE if there is a snapshot");
         for (int images = 2; images <= 4; images++) {
             for (int snapshots = 1; snapshots <= 4; snapshots++) {
-                String when = images + " images, " + snapshots + " snapshots, ";
-                due(when + "commit()", full(images, snapshots).commit(), ImageChain.NONE);
-                due(when + "abandon()", full(images, snapshots).abandon(), ImageChain.NONE);
                 ImageChain x = full(images, snapshots);
-                for (int s = snapshots; s > 0; s--) {
-                    x.forget(0);
-                }
-                due(when + "forgotten, one way off", snapshots % 2 == 0 ? x.commit() : x.abandon(), 16);
+                String when = images + " images, " + snapshots + " snapshots, ";
+                due(when + "commit()", x.commit(), ImageChain.NONE);
+                forgetAll(x);
+                due(when + "forgotten, commit()", x.commit(), 16);
+            }
+        }
+    }
+
+    private static void abandonWithSnapshots() {
+        says("Promise 10: NONE if there is a snapshot");
+        for (int images = 2; images <= 4; images++) {
+            for (int snapshots = 1; snapshots <= 4; snapshots++) {
+                ImageChain x = full(images, snapshots);
+                String when = images + " images, " + snapshots + " snapshots, ";
+                due(when + "abandon()", x.abandon(), ImageChain.NONE);
+                forgetAll(x);
+                due(when + "forgotten, abandon()", x.abandon(), 16);
             }
         }
     }
@@ -855,15 +875,25 @@ public final class ImageChainBoundaries {
         allRead("revert to all", x, MIN);
     }
 
-    private static void noSuchSnapshot() {
-        says("Promises 13 and 14: NONE if there is no snapshot s");
+    private static void revertNoSuchSnapshot() {
+        says("Promise 13: NONE if there is no snapshot s");
         for (int count = 0; count <= 4; count++) {
             for (int s : noSnapshots(count)) {
                 due(count + " snapshots, revert(" + s + ")", full(2, count).revert(s), ImageChain.NONE);
-                due(count + " snapshots, forget(" + s + ")", full(2, count).forget(s), ImageChain.NONE);
             }
             for (int s = 0; s < count; s++) {
                 due(count + " snapshots, revert(" + s + ")", full(2, count).revert(s), 0);
+            }
+        }
+    }
+
+    private static void forgetNoSuchSnapshot() {
+        says("Promise 14: NONE if there is no snapshot s");
+        for (int count = 0; count <= 4; count++) {
+            for (int s : noSnapshots(count)) {
+                due(count + " snapshots, forget(" + s + ")", full(2, count).forget(s), ImageChain.NONE);
+            }
+            for (int s = 0; s < count; s++) {
                 due(count + " snapshots, forget(" + s + ")", full(2, count).forget(s), count - 1);
             }
         }
@@ -1172,10 +1202,12 @@ public final class ImageChainBoundaries {
     }
 
     private static void promises9To16() {
-        commitAndAbandonOneImage();
-        commitAndAbandonWithSnapshots();
+        commitOneImage();
+        commitWithSnapshots();
         commitAnswersTheWords();
         commitMovesWordsDown();
+        abandonOneImage();
+        abandonWithSnapshots();
         abandonAnswersTheWords();
         abandonTakesWhatItSaid();
         pullOneImage();
@@ -1184,9 +1216,10 @@ public final class ImageChainBoundaries {
         pullDownToOne();
         snapshotWhenFull();
         snapshotOfAllAndOfNothing();
-        noSuchSnapshot();
+        revertNoSuchSnapshot();
         revertAnswersTheChanges();
         revertToWordsOfZero();
+        forgetNoSuchSnapshot();
         forgetMovesNumbers();
         forgetDownToNone();
         snapshotsFromNoneToFour();
